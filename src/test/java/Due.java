@@ -1,0 +1,52 @@
+/** Counts and prints the calls whose answer is not the one that is due. */
+final class Due {
+    private static int wrong = 0;
+    private static int looked = 0;
+
+    private Due() {
+    }
+
+    static void is(String call, long got, long want) {
+        looked++;
+        if (got != want) {
+            wrong++;
+            if (wrong <= 50) {
+                System.out.println(call + " answered " + got + ", due is " + want);
+            }
+        }
+    }
+
+    static void is(String call, boolean got, boolean want) {
+        is(call, got ? 1 : 0, want ? 1 : 0);
+    }
+
+    /** Looks at the stage through element alone: all its elements, and the places beside them. */
+    static void stage(String when, ShrinkRanker x, int... want) {
+        is(when + ": element(-1)", x.element(-1), ShrinkRanker.NONE);
+        for (int i = 0; i < want.length; i++) {
+            is(when + ": element(" + i + ")", x.element(i), want[i]);
+        }
+        is(when + ": element(" + want.length + ")", x.element(want.length), ShrinkRanker.NONE);
+    }
+
+    /** A new object whose stage is the list given. */
+    static ShrinkRanker staged(int... list) {
+        ShrinkRanker x = new ShrinkRanker();
+        put(x, list);
+        return x;
+    }
+
+    static void put(ShrinkRanker x, int... list) {
+        x.empty();
+        for (int element : list) {
+            x.push(element);
+        }
+    }
+
+    static void end() {
+        if (wrong != 0 || looked == 0) {
+            System.out.println(wrong + " of " + looked + " answers are not as due");
+            System.exit(1);
+        }
+    }
+}
