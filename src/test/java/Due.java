@@ -2,8 +2,24 @@
 final class Due {
     private static int wrong = 0;
     private static int looked = 0;
+    private static String sentence = "";
+    private static int lookedBefore = -1;
 
     private Due() {
+    }
+
+    /** What follows, up to the next sentence, tests this one: "promise: words of the document". */
+    static void sentence(String words) {
+        endSentence();
+        sentence = "[" + words + "] ";
+        lookedBefore = looked;
+    }
+
+    private static void endSentence() {
+        if (looked == lookedBefore) {
+            wrong++;
+            System.out.println(sentence + "no answer was looked at");
+        }
     }
 
     static void is(String call, long got, long want) {
@@ -11,7 +27,7 @@ final class Due {
         if (got != want) {
             wrong++;
             if (wrong <= 50) {
-                System.out.println(call + " answered " + got + ", due is " + want);
+                System.out.println(sentence + call + " answered " + got + ", due is " + want);
             }
         }
     }
@@ -44,6 +60,7 @@ final class Due {
     }
 
     static void end() {
+        endSentence();
         if (wrong != 0 || looked == 0) {
             System.out.println(wrong + " of " + looked + " answers are not as due");
             System.exit(1);
