@@ -1,11 +1,37 @@
+import java.util.HashMap;
+import java.util.Map;
+
 /** Counts and prints the calls whose answer is not the one that is due. */
 final class Due {
+    /** Of each sentence so many are printed, so that one that is broken doesn't hide the others. */
+    private static final int MOST_PRINTED = 10;
+
+    /** Far above what any test needs: a call that doesn't end is a failure, not a wait. */
+    private static final int MOST_SECONDS = 300;
+
+    private static final Map<String, Integer> WRONG_OF_SENTENCE = new HashMap<>();
     private static int wrong = 0;
     private static int looked = 0;
-    private static String sentence = "";
+    private static volatile String sentence = "";
     private static int lookedBefore = -1;
 
+    static {
+        Thread watch = new Thread(Due::failWhenLate);
+        watch.setDaemon(true);
+        watch.start();
+    }
+
     private Due() {
+    }
+
+    private static void failWhenLate() {
+        try {
+            Thread.sleep(MOST_SECONDS * 1000L);
+        } catch (InterruptedException e) {
+            return;
+        }
+        System.out.println(sentence + "a call has not ended after " + MOST_SECONDS + " seconds");
+        Runtime.getRuntime().halt(1);
     }
 
     /** What follows, up to the next sentence, tests this one: "promise: words of the document". */
@@ -26,7 +52,7 @@ final class Due {
         looked++;
         if (got != want) {
             wrong++;
-            if (wrong <= 50) {
+            if (WRONG_OF_SENTENCE.merge(sentence, 1, Integer::sum) <= MOST_PRINTED) {
                 System.out.println(sentence + call + " answered " + got + ", due is " + want);
             }
         }
