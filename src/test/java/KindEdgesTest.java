@@ -182,7 +182,7 @@ public final class KindEdgesTest {
     }
 
     private static void parity() {
-        Due.sentence("Terms: PARITY the number of elements equal to a (0 to 3), modulo 2, is b (0 or 1)");
+        Due.sentence("Terms: PARITY the number of elements equal to a, modulo 2, is b (0 or 1)");
         for (int a = 0; a <= 3; a++) {
             met(true, PARITY, a, 0);
             met(false, PARITY, a, 1);
